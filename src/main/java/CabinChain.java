@@ -27,6 +27,7 @@ public final class CabinChain {
     private static final int MOST_TICKS_A_CALL = 200;
     private static final int MOST_TICKS = 2000;
     private static final int FARTHEST_TURN = 100;
+    private static final int FLOORS_BY_HAND = 3;
 
     private static final int OVER = 100;
     private static final int UNDER = 101;
@@ -294,8 +295,8 @@ public final class CabinChain {
         }
         theDay.playDay(house, now.speed, STAIRS_AS_TOLD);
         switch (what) {
-            case 0: return kept.howManyHaveLess(i, theDay);
-            case 1: return kept.howManyHaveMore(i, theDay);
+            case 0: return kept.howManyHave(-1, i, theDay);
+            case 1: return kept.howManyHave(1, i, theDay);
             default: return kept.lessTogether(i, theDay);
         }
     }
@@ -393,8 +394,8 @@ public final class CabinChain {
         }
 
         int ticksLeft(int moved, int v) {
-            int phase = moved % steps;
-            return phase < open ? (open - phase + v - 1) / v : 0;
+            int stepsLeft = open - moved % steps;
+            return stepsLeft > 0 ? (stepsLeft + v - 1) / v : 0;
         }
 
         boolean isOpen(int moved) {
@@ -714,15 +715,15 @@ public final class CabinChain {
         final int[] forth = new int[MOST_BOXES];
         final int[] back = new int[MOST_BOXES];
 
-        // Turned one way by a and the other way by b, the way there is gone twice for whichever comes first.
+        // The way that is gone first is gone twice, there and back, so the shorter one is gone first.
         int fewestSteps(Course course) {
-            int reach = 3 * course.house.steps;
+            int reach = FLOORS_BY_HAND * course.house.steps;
             measure(course, reach);
             int fewest = NONE;
-            for (int a = 0; a <= reach; a++) {
-                int b = backBeside(course, a);
-                int steps = a + b + Math.min(a, b);
-                if (b <= reach && (fewest == NONE || steps < fewest)) {
+            for (int forthBy = 0; forthBy <= reach; forthBy++) {
+                int backBy = backBeside(course, forthBy);
+                int steps = forthBy + backBy + Math.min(forthBy, backBy);
+                if (backBy <= reach && (fewest == NONE || steps < fewest)) {
                     fewest = steps;
                 }
             }
@@ -746,11 +747,11 @@ public final class CabinChain {
             return reach + 1;
         }
 
-        /** How far back the chain must go for the boxes that are not let out within a steps forth. */
-        private int backBeside(Course course, int a) {
+        /** How far back the chain must go, too, for the boxes that are not let out by so many steps forth. */
+        private int backBeside(Course course, int forthBy) {
             int farthest = 0;
             for (int b = 0; b < course.house.boxes; b++) {
-                if (course.widths[b] > 0 && forth[b] > a) {
+                if (course.widths[b] > 0 && forth[b] > forthBy) {
                     farthest = Math.max(farthest, back[b]);
                 }
             }
@@ -763,8 +764,7 @@ public final class CabinChain {
         final int[][] counts = new int[2][MOST_FLOORS];
 
         ToldCounts() {
-            Arrays.fill(counts[0], GAP);
-            Arrays.fill(counts[1], GAP);
+            forget();
         }
 
         void forget() {
@@ -822,18 +822,13 @@ public final class CabinChain {
             number++;
         }
 
-        int howManyHaveLess(int i, Course course) {
+        /** How many have less cost in this course than on the kept day (way = -1), or more (1). */
+        int howManyHave(int way, int i, Course course) {
             int all = 0;
             for (int p = 0; p < people[i]; p++) {
-                all += course.costOf(p) < costs[i][p] ? 1 : 0;
-            }
-            return all;
-        }
-
-        int howManyHaveMore(int i, Course course) {
-            int all = 0;
-            for (int p = 0; p < people[i]; p++) {
-                all += course.costOf(p) > costs[i][p] ? 1 : 0;
+                if (Integer.signum(course.costOf(p) - costs[i][p]) == way) {
+                    all++;
+                }
             }
             return all;
         }

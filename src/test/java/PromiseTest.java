@@ -35,6 +35,10 @@ public final class PromiseTest {
         bestSpeed();
         bestStairs();
         day();
+        dayEnds();
+        dayGoesBySpeedAsItIs();
+        fearAtTheTop();
+        thirtyInOneLine();
         wheel();
         wheelBothWays();
         turn();
@@ -104,6 +108,7 @@ public final class PromiseTest {
         x.stop(true);
         x.shut(1, true);
         x.tell(0, 0, 7);
+        x.tell(1, 1, 6);
         x.keep();
         due.is("bad house", x.house(2, 4, 3, 9), BAD);
         due.is("bad house keeps people", x.count(0), 1);
@@ -114,7 +119,8 @@ public final class PromiseTest {
             due.is("house: count " + what, x.count(what), 0);
         }
         due.is("house: counts go", x.counted(0, 0), 0);
-        due.is("house: told go", x.tell(0, 0, -1), -1);
+        due.is("house: told in go", x.tell(0, 0, -1), -1);
+        due.is("house: told out go", x.tell(1, 1, -1), -1);
         due.is("house: kept go", x.beside(0, 0), -1000000);
         due.is("house: goes", x.stop(false), 0);
         due.is("house: doors open", x.shut(1, false), 0);
@@ -456,6 +462,7 @@ public final class PromiseTest {
         x.ticks(1);
         due.is("stands", x.about(1, 0), 1);
         due.is("stands at", x.about(1, 1), 0);
+        due.is("one stands", x.count(4), 1);
         x.ticks(3);
         due.is("in a box", x.about(1, 0), 2);
         due.is("box", x.about(1, 1), 5);
@@ -515,13 +522,18 @@ public final class PromiseTest {
         due.is("nobody", x.safe(4), 1);
         due.is("walker", x.person(0, 0, 1, 1, 6, 0, 1), 0);
         due.is("a walker's need is nothing", x.safe(4), 1);
-        due.is("needs 3", x.person(0, 0, 2, 1, 3, 0, 1), 1);
+        due.is("nor is one's who walks down", x.person(0, 2, 1, 1, 6, 0, 1), 1);
+        due.is("safe still", x.safe(4), 1);
+        due.is("needs 3", x.person(0, 0, 2, 1, 3, 0, 1), 2);
         due.is("five by two is three", x.safe(2), 1);
         due.is("five by three is two", x.safe(3), 0);
         due.is("0", x.safe(0), BAD);
         due.is("5", x.safe(5), BAD);
         due.is("most", x.safe(MOST), BAD);
         due.is("beyond steps", made(3, 3, 1, 1).safe(4), BAD);
+        CabinChain y = made(3, 6, 5, 1);
+        add(y, 0, 0, 0, 2, 1, 6, 0);
+        due.is("the first needs too much", y.safe(1), 0);
     }
 
     private static void cost() {
@@ -602,6 +614,99 @@ public final class PromiseTest {
         add(y, 2, 8, 0, 1, 1, 1, 0);
         due.is("of several the lowest", y.day(3), 0);
         due.is("all done", y.day(0), 0);
+    }
+
+    /** One after another they take the boxes from floor 0 to floor 7, the last in the last tick or one behind it. */
+    private static void dayEnds() {
+        CabinChain x = made(8, 8, 1, 1);
+        for (int i = 0; i < 6; i++) {
+            add(x, i, 900, 0, 7, 1, 1, 0);
+        }
+        due.is("the last is done in tick 999", x.day(0), 0);
+        due.is("and is the dearest", x.day(3), 5);
+        due.is("costs", x.cost(1, -1), 59 + 67 + 75 + 83 + 91 + 99);
+        CabinChain y = made(8, 11, 1, 1);
+        for (int i = 0; i < 3; i++) {
+            add(y, i, 900, 0, 7, 1, 1, 0);
+        }
+        due.is("tick 1000 is not of the day", y.day(0), 1);
+        due.is("its line", y.day(2), 3);
+        due.is("its costs", y.cost(1, -1), 78 + 89 + 100);
+        for (int i = 0; i < 6; i++) {
+            y.ticks(167);
+        }
+        due.is("done as it is", y.about(2, 2), 1000);
+        due.is("as if 1000", y.about(2, 4), 100);
+    }
+
+    private static void dayGoesBySpeedAsItIs() {
+        CabinChain x = made(4, 4, 4, 1);
+        add(x, 0, 0, 0, 3, 1, 1, 0);
+        due.is("keep by 1", x.keep(), 1);
+        due.is("asked of 4", x.cost(4, -1), 3);
+        due.is("anew", x.anew(), 0);
+        due.is("speed is 1 still", x.speed(1), 1);
+        due.is("by 1 on foot takes no longer than the chain", x.bestStairs(), 0);
+        due.is("asked of 4 again", x.cost(4, -1), 3);
+        due.is("by 1 nothing is less", x.beside(0, 0), 0);
+        due.is("asked of 4 once more", x.cost(4, -1), 3);
+        due.is("by 1 together", x.beside(0, 2), 0);
+        x.speed(4);
+        due.is("by 4 one has less", x.beside(0, 0), 1);
+        due.is("by 4 together", x.beside(0, 2), 11 - 3);
+        due.is("keep by 4", x.keep(), 2);
+        x.speed(2);
+        due.is("by 2 one has more", x.beside(1, 1), 1);
+        due.is("by 2 one has less", x.beside(0, 0), 1);
+    }
+
+    private static void fearAtTheTop() {
+        CabinChain x = made(3, 4, 3, 1);
+        add(x, 0, 0, 0, 1, 1, 1, 1);
+        add(x, 1, 0, 1, 2, 1, 1, 0);
+        x.ticks(1);
+        x.shut(1, true);
+        x.ticks(6);
+        due.is("past its floor", x.about(0, 1), 0);
+        due.is("its floor is shut", x.counted(1, 1), 0);
+        x.ticks(1);
+        due.is("two are out at the top", x.counted(2, 1), 2);
+        due.is("the one that fears goes down again by box 2", x.about(0, 1), 2);
+        due.is("not over the top", x.about(0, 3), 0);
+        x.shut(1, false);
+        x.ticks(4);
+        due.is("done on the way down", x.about(0, 2), 11);
+        due.is("at 1", x.counted(1, 1), 1);
+    }
+
+    private static void thirtyInOneLine() {
+        CabinChain x = made(8, 12, 1, 1);
+        for (int i = 0; i < 30; i++) {
+            add(x, i, 0, 0, 7, 2, 1, 0);
+        }
+        due.is("one box each twelve ticks", x.cost(1, -1), 30 * 95 + 12 * (29 * 30 / 2));
+        due.is("all done", x.day(0), 0);
+        due.is("the longest line", x.day(2), 30);
+        due.is("the last pays most", x.day(3), 29);
+        due.is("keep", x.keep(), 1);
+        due.is("beside", x.beside(0, 2), 0);
+        due.is("stairs", x.bestStairs(), 7);
+        x.shut(0, true);
+        x.ticks(12);
+        due.is("the last in line", x.stands(0, 29), 29);
+        due.is("nobody behind", x.stands(0, 30), NONE);
+        x.shut(0, false);
+        x.ticks(12);
+        due.is("all move up", x.stands(0, 28), 29);
+        due.is("one less", x.stands(0, 29), NONE);
+        x.stop(true);
+        for (int i = 0; i < 28; i++) {
+            x.ticks(1);
+        }
+        due.is("two fill a box", x.count(3), 2);
+        due.is("let out", x.turn(0), 2);
+        due.is("the first is last now", x.stands(0, 28), 0);
+        due.is("and the next", x.stands(0, 29), 1);
     }
 
     private static CabinChain stoppedBetween() {
