@@ -9,8 +9,9 @@ import java.util.Map;
 public final class RoomTest {
     private static final int MOST_OBJECTS = 100;
     private static final int MOST_ELEMENTS = 2000;
-    private static final int CALLS = 500;
-    // What measuring and compiling on the side may take; one array of people made by each call would be 70,000.
+    // Of 24 calls each, with one round ahead of them: no more than the 512 that an object is used for.
+    private static final int ROUNDS = 19;
+    // What measuring and compiling on the side may take; one array of people made by each call would be 60,000.
     private static final long SLACK_BYTES = 20_000;
 
     private static final Due due = new Due();
@@ -65,7 +66,7 @@ public final class RoomTest {
         }
         askAll(x);
         long before = allocated();
-        for (int i = 0; i < CALLS / 20; i++) {
+        for (int i = 0; i < ROUNDS; i++) {
             askAll(x);
         }
         long bytes = allocated() - before;

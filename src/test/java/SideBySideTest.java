@@ -2,8 +2,10 @@ import java.util.Random;
 
 /** The class against the plain model: runs of calls drawn from fixed seeds, every answer compared. */
 public final class SideBySideTest {
-    private static final int RUNS = 400;
-    private static final int CALLS = 500;
+    private static final int RUNS = 1500;
+    // An object is used for 512 calls at most, and to ask for all that it holds takes some 300 of them.
+    private static final int CALLS = 200;
+    private static final int MOST_CALLS = 512;
 
     private static final Due due = new Due();
 
@@ -12,6 +14,7 @@ public final class SideBySideTest {
     private final PlainModel y = new PlainModel();
     private final String name;
     private int floors = 2;
+    private int calls;
 
     private SideBySideTest(int seed) {
         random = new Random(seed);
@@ -35,8 +38,10 @@ public final class SideBySideTest {
             addPerson(spread);
         }
         for (int i = people; i < CALLS; i++) {
-            call(i);
+            call();
         }
+        askAll();
+        due.isTrue(name + ": no more calls than an object is used for", calls <= MOST_CALLS);
     }
 
     /** A number within the bounds, now and then one at or beyond them. */
@@ -51,7 +56,9 @@ public final class SideBySideTest {
         return least + random.nextInt(Math.max(1, most - least + 1));
     }
 
+    /** One call on the class, with what the model answers to it. */
     private void is(String call, int got, int want) {
+        calls++;
         due.is(name + ": " + call, got, want);
     }
 
@@ -79,7 +86,7 @@ public final class SideBySideTest {
                 y.person(tick, from, to, width, need, fear, stairs));
     }
 
-    private void call(int i) {
+    private void call() {
         int draw = random.nextInt(100);
         if (draw < 30) {
             change();
@@ -87,9 +94,6 @@ public final class SideBySideTest {
             askOfDays();
         } else {
             ask();
-        }
-        if (i % 50 == 49) {
-            askAll();
         }
     }
 
@@ -162,17 +166,17 @@ public final class SideBySideTest {
             is("count " + what, x.count(what), y.count(what));
         }
         for (int what = 0; what <= 4; what++) {
-            for (int b = 0; b < 18; b++) {
+            for (int b = 0; b < 2 * floors + 2; b++) {
                 is("box", x.box(b, what), y.box(b, what));
             }
-            for (int p = 0; p < 30; p++) {
+            for (int p = 0; p < y.count(0); p++) {
                 is("about", x.about(p, what), y.about(p, what));
             }
         }
         for (int floor = 0; floor < floors; floor++) {
             is("in", x.counted(floor, 0), y.counted(floor, 0));
             is("out", x.counted(floor, 1), y.counted(floor, 1));
-            for (int i = 0; i < 30; i++) {
+            for (int i = 0; i == 0 || y.stands(floor, i - 1) >= 0; i++) {
                 is("stands", x.stands(floor, i), y.stands(floor, i));
             }
         }
