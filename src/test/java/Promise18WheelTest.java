@@ -191,17 +191,8 @@ public final class Promise18WheelTest extends TestBase {
         due.is("both where they stand", x.wheel(), 0);
     }
 
-    /** Box 0 up between 1 and 2 with door 1 shut, box 5 down below 0: stopped where they need both ways. */
     static void promise18_bothWaysInWhateverOrder() {
-        CabinChain x = made(3, 6, 2, 1);
-        child(x, 0, 0, 0, 2);
-        child(x, 1, 0, 1, 0);
-        x.ticks(1);
-        x.shut(0, true);
-        x.ticks(8);
-        x.stop(true);
-        x.shut(0, false);
-        x.shut(1, true);
+        CabinChain x = stoppedApart();
         due.is("two back, then five forth", x.wheel(), 7);
         x.shut(0, true);
         due.is("three forth, then back to floor 2", x.wheel(), 3 + 17);

@@ -230,15 +230,7 @@ public final class Promise19TurnTest extends TestBase {
 
     /** Two boxes that are let out one after the other, by as many steps as the wheel tells. */
     static void promise19_oneBoxAfterTheOther() {
-        CabinChain x = made(3, 6, 2, 1);
-        child(x, 0, 0, 0, 2);
-        child(x, 1, 0, 1, 0);
-        x.ticks(1);
-        x.shut(0, true);
-        x.ticks(8);
-        x.stop(true);
-        x.shut(0, false);
-        x.shut(1, true);
+        CabinChain x = stoppedApart();
         due.is("both", x.wheel(), 7);
         due.is("the first", x.turn(-2), 1);
         due.is("is done", x.about(1, 2), 9);

@@ -44,7 +44,7 @@ public final class SideBySideTest {
         due.isTrue(name + ": no more calls than an object is used for", calls <= MOST_CALLS);
     }
 
-    /** A number within the bounds, now and then one at or beyond them. */
+    /** A number within the bounds, now and then one just beyond them, and once in a while one that is far off. */
     private int around(int least, int most) {
         int draw = random.nextInt(60);
         if (draw == 0) {
@@ -52,6 +52,9 @@ public final class SideBySideTest {
         }
         if (draw == 1) {
             return most + 1;
+        }
+        if (draw == 2 && random.nextInt(4) == 0) {
+            return random.nextBoolean() ? Integer.MIN_VALUE : Integer.MAX_VALUE;
         }
         return least + random.nextInt(Math.max(1, most - least + 1));
     }

@@ -7,6 +7,8 @@ import java.util.List;
  */
 final class Sight {
     private static final int TICKS_AHEAD = 40;
+    // Beyond what any house holds, so that a class that refuses nothing is looked at to an end, too.
+    private static final int FAR = 40;
 
     private final CabinChain x;
     private final List<String> rows = new ArrayList<>();
@@ -38,7 +40,7 @@ final class Sight {
         row("left()", x.left());
         row("wheel()", x.wheel());
         row("wrong()", x.wrong());
-        for (int b = 0; x.box(b, 0) >= 0; b++) {
+        for (int b = 0; b < FAR && x.box(b, 0) >= 0; b++) {
             for (int what = 0; what <= 4; what++) {
                 row("box(" + b + ", " + what + ")", x.box(b, what));
             }
@@ -55,12 +57,12 @@ final class Sight {
 
     private int floors() {
         int floor = 0;
-        while (x.counted(floor, 0) >= 0) {
+        while (floor < FAR && x.counted(floor, 0) >= 0) {
             row("counted(" + floor + ", 0)", x.counted(floor, 0));
             row("counted(" + floor + ", 1)", x.counted(floor, 1));
             int i = 0;
             int p = x.stands(floor, i);
-            while (p >= 0) {
+            while (p >= 0 && i < FAR) {
                 row("stands(" + floor + ", " + i + ")", p);
                 i++;
                 p = x.stands(floor, i);

@@ -99,6 +99,21 @@ public final class Terms2TickTest extends TestBase {
         due.is("2 in box 0", x.about(2, 3), 1);
     }
 
+    static void terms2_theFirstAndTheLastOfThirtyAreTurned() {
+        CabinChain x = new CabinChain();
+        child(x, 0, 0, 0, 1);
+        for (int i = 1; i < 29; i++) {
+            child(x, i, 900, 0, 1);
+        }
+        child(x, 29, 1, 0, 1);
+        x.shut(1, true);
+        x.ticks(8);
+        due.is("both are over", x.box(0, 4), 1 + (1 << 29));
+        due.is("the first", x.about(0, 3), 1);
+        due.is("one that has yet to come", x.about(15, 3), 0);
+        due.is("the last", x.about(29, 3), 1);
+    }
+
     static void terms2_comesInItsTick() {
         CabinChain x = new CabinChain();
         child(x, 0, 0, 0, 1);

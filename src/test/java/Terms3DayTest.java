@@ -27,7 +27,7 @@ public final class Terms3DayTest extends TestBase {
         due.is("at the same cost", x.about(2, 4), 100);
     }
 
-    /** Over and under in turns, the last time over in tick 999; one tick more would turn it no more, one less once less. */
+    /** Over and under in turns, the last time over in tick 999, so that a day of one tick less would tell one less. */
     static void terms3_turnedTillTick999() {
         CabinChain x = made(2, 5, 3, 2);
         add(x, 0, 0, 0, 1, 1, 2, 0);

@@ -52,6 +52,20 @@ abstract class TestBase {
         }
     }
 
+    /** Box 0 up between 1 and 2 with door 1 shut, box 5 down below 0: stopped where they need both ways. */
+    static CabinChain stoppedApart() {
+        CabinChain x = made(3, 6, 2, 1);
+        child(x, 0, 0, 0, 2);
+        child(x, 1, 0, 1, 0);
+        x.ticks(1);
+        x.shut(0, true);
+        x.ticks(8);
+        x.stop(true);
+        x.shut(0, false);
+        x.shut(1, true);
+        return x;
+    }
+
     /** In every state the call is refused, and all is as it would be without it. */
     static void refused(String name, Call call, int want) {
         for (State state : State.all()) {
