@@ -60,7 +60,7 @@ public final class Promise26CountTest extends TestBase {
         are(x, 30, 7, 7, 0, 0, 0, 30, 0, 0);
     }
 
-    /** Stopped with the doors open, the box up of each floor but the top fills, and the box down of each but the lowest. */
+    /** Stopped with open doors, the box up of each floor but the top fills, and the box down of each but the lowest. */
     static void promise26_thirtyInBoxes() {
         CabinChain x = made(8, 2, 1, 1);
         for (int i = 0; i < 28; i++) {
