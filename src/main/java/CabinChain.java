@@ -395,7 +395,7 @@ public final class CabinChain {
 
         int ticksLeft(int moved, int v) {
             int stepsLeft = open - moved % steps;
-            return stepsLeft > 0 ? (stepsLeft + v - 1) / v : 0;
+            return stepsLeft > 0 && v > 0 ? (stepsLeft + v - 1) / v : 0;
         }
 
         boolean isOpen(int moved) {
@@ -542,12 +542,15 @@ public final class CabinChain {
             }
         }
 
-        // A person is in one line at most, so no line outgrows its row.
+        // A person is in one line at most, so no line outgrows its row; its end is looked at all the same.
         private void stand(int p, int floor) {
-            where[p] = STANDS;
-            at[p] = floor;
-            line[floor][lineLength[floor]] = p;
-            lineLength[floor]++;
+            int end = lineLength[floor];
+            if (end < MOST_PEOPLE) {
+                where[p] = STANDS;
+                at[p] = floor;
+                line[floor][end] = p;
+                lineLength[floor] = end + 1;
+            }
         }
 
         private void serveBoxes() {

@@ -22,6 +22,8 @@ public final class FaceTest {
     private static final String LEFT_OUT =
             "\\b(throw|throws|try|catch|finally|synchronized|assert|volatile|native|protected|"
             + "System\\.(out|err|in|nanoTime|currentTimeMillis)|Random|Thread|File|Exact|var)\\b|->|::";
+    private static final Set<String> LIBRARY =
+            Set.of("Arrays.fill", "Integer.signum", "Math.abs", "Math.floorMod", "Math.max", "Math.min");
     private static final int LONGEST_METHOD = 60;
     private static final int MOST_FIELDS = 20;
     private static final int MOST_CLASSES = 12;
@@ -112,7 +114,17 @@ public final class FaceTest {
         due.isTrue("no package", !code.contains("package "));
         due.isTrue("one import", code.split("\\bimport\\b", -1).length == 2 && code.contains("import java.util.Arrays;"));
         due.isTrue("plain characters", source.chars().allMatch(ch -> ch < 128));
+        library(code);
         methodsAreShort(code.split("\n"));
+    }
+
+    private static void library(String code) {
+        Matcher found = Pattern.compile("\\b[A-Z][a-z]\\w*\\.\\w+").matcher(code.replaceAll("import .*", ""));
+        Set<String> used = new TreeSet<>();
+        while (found.find()) {
+            used.add(found.group());
+        }
+        due.isTrue("of the library " + LIBRARY + ", and not " + used, used.equals(LIBRARY));
     }
 
     /** A method begins with a line that ends in "){" at some depth and ends with the next brace at that depth. */
